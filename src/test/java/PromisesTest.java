@@ -21,6 +21,9 @@ public final class PromisesTest {
         mirrored();
         emptyListOfObjects();
         emptyChoice();
+        onlyObject();
+        shorterAfterLonger();
+        longestLists();
         lastOfManyCalls();
         System.out.println(wrong == 0 ? "all answers are as due" : wrong + " answers are not as due");
         if (wrong != 0) {
@@ -291,6 +294,42 @@ public final class PromisesTest {
             due("empty choice: difference(1)", x.difference(1), RankedObjects.BAD);
             due("empty choice: mirrored()", x.mirrored(), 0);
         }
+    }
+
+    private static void onlyObject() {
+        RankedObjects x = made(0, 3, 3, 0);
+        dueList("only choice", x, 0, 1, 2);
+        due("only choice: next()", x.next(), RankedObjects.NONE);
+        due("only choice: previous()", x.previous(), RankedObjects.NONE);
+        due("only choice: firstLike(2)", x.firstLike(2), 0);
+        due("only choice: like(0)", x.like(0), 1);
+        due("only choice: mirrored()", x.mirrored(), 0);
+        dueList("only order", made(1, 1, 0, 0), 0);
+        dueList("only grouping", made(2, 1, 0, 0), 0);
+        dueList("only nesting", made(3, 1, 0, 0), 1, 0);
+        dueList("only part", made(4, 7, 1, 0), 7);
+    }
+
+    /** What an earlier, longer list left behind must not count. */
+    private static void shorterAfterLonger() {
+        RankedObjects x = made(1, 7, 0, 5039);
+        x.difference(0);
+        x.mirrored();
+        due("shorter: choose(0, 5, 2)", x.choose(0, 5, 2), true);
+        due("shorter: difference(9)", x.difference(9), 2);
+        due("shorter: mirrored()", x.mirrored(), 9);
+        due("shorter: choose(0, 5, 0)", x.choose(0, 5, 0), true);
+        due("shorter: difference(0)", x.difference(0), 0);
+        due("shorter: mirrored()", x.mirrored(), 0);
+    }
+
+    private static void longestLists() {
+        RankedObjects x = made(3, 7, 0, 428);
+        dueList("longest", x, 1, 1, 1, 1, 1, 1, 1, 0, 0, 0, 0, 0, 0, 0);
+        due("longest: firstLike(13)", x.firstLike(13), 428);
+        due("longest: like(13)", x.like(13), 1);
+        due("longest: difference(0)", x.difference(0), 6);
+        due("longest: mirrored()", x.mirrored(), 428);
     }
 
     private static void lastOfManyCalls() {
