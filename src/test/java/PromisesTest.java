@@ -1,4 +1,4 @@
-/** Each promise by itself: ordinary inputs, the edges that the document names, and wrong inputs. */
+/** Each promise by itself, with lists written out by hand; BoundariesTest has the boundary cases in full. */
 public final class PromisesTest {
     private static final int LOWEST = Integer.MIN_VALUE;
     private static final int HIGHEST = Integer.MAX_VALUE;
@@ -8,7 +8,6 @@ public final class PromisesTest {
     public static void main(String[] args) {
         newObject();
         choose();
-        chooseRefused();
         count();
         number();
         item();
@@ -19,8 +18,6 @@ public final class PromisesTest {
         like();
         difference();
         mirrored();
-        emptyListOfObjects();
-        emptyChoice();
         onlyObject();
         shorterAfterLonger();
         longestLists();
@@ -91,26 +88,6 @@ public final class PromisesTest {
             for (int k = 1; k <= 7; k++) {
                 made(sort, 7, k, 0);
             }
-        }
-    }
-
-    private static void chooseRefused() {
-        int[][] refused = {
-            {-1, 3, 1}, {5, 3, 1}, {LOWEST, 3, 1}, {HIGHEST, 3, 1},
-            {0, 0, 0}, {1, 0, 0}, {2, 0, 0}, {3, 0, 0}, {4, 0, 0},
-            {0, 8, 1}, {1, 8, 1}, {2, 8, 1}, {3, 8, 1}, {4, 8, 1},
-            {1, -1, 0}, {1, LOWEST, 0}, {1, HIGHEST, 0},
-            {0, 4, -1}, {0, 4, 5}, {0, 4, LOWEST}, {0, 4, HIGHEST}, {0, 1, 2},
-            {4, 4, -1}, {4, 4, 5}, {4, 4, LOWEST}, {4, 4, HIGHEST}, {4, 7, 8},
-        };
-        for (int[] r : refused) {
-            RankedObjects x = made(4, 4, 3, 6);
-            String what = "promise 2: after choose(" + r[0] + ", " + r[1] + ", " + r[2] + ")";
-            due(what, x.choose(r[0], r[1], r[2]), false);
-            due(what + ": count()", x.count(), 15);
-            due(what + ": number()", x.number(), 6);
-            dueList(what, x, 1, 1, 2);
-            due(what + ": next()", x.next(), 7);
         }
     }
 
@@ -257,43 +234,6 @@ public final class PromisesTest {
         x.mirrored();
         due("promise 12: number() after it", x.number(), 1);
         dueList("promise 12: after it", x, 0, 2);
-    }
-
-    private static void emptyListOfObjects() {
-        for (int n = 1; n <= 7; n++) {
-            RankedObjects x = made(3, 7, 0, 100);
-            due("no parts: choose", x.choose(4, n, 0), true);
-            due("no parts: count()", x.count(), 0);
-            due("no parts: number()", x.number(), RankedObjects.NONE);
-            due("no parts: next()", x.next(), RankedObjects.NONE);
-            due("no parts: previous()", x.previous(), RankedObjects.NONE);
-            due("no parts: mirrored()", x.mirrored(), RankedObjects.NONE);
-            for (int i = -1; i <= 1; i++) {
-                due("no parts: item(" + i + ")", x.item(i), RankedObjects.BAD);
-                due("no parts: go(" + i + ")", x.go(i), RankedObjects.BAD);
-                due("no parts: firstLike(" + i + ")", x.firstLike(i), RankedObjects.BAD);
-                due("no parts: like(" + i + ")", x.like(i), RankedObjects.BAD);
-                due("no parts: difference(" + i + ")", x.difference(i), RankedObjects.BAD);
-            }
-            due("no parts: number() at the end", x.number(), RankedObjects.NONE);
-        }
-    }
-
-    private static void emptyChoice() {
-        for (int n = 1; n <= 7; n++) {
-            RankedObjects x = made(0, n, 0, 0);
-            due("empty choice: count()", x.count(), 1);
-            due("empty choice: number()", x.number(), 0);
-            due("empty choice: item(0)", x.item(0), RankedObjects.BAD);
-            due("empty choice: go(1)", x.go(1), RankedObjects.BAD);
-            due("empty choice: next()", x.next(), RankedObjects.NONE);
-            due("empty choice: previous()", x.previous(), RankedObjects.NONE);
-            due("empty choice: firstLike(0)", x.firstLike(0), RankedObjects.BAD);
-            due("empty choice: like(0)", x.like(0), RankedObjects.BAD);
-            due("empty choice: difference(0)", x.difference(0), 0);
-            due("empty choice: difference(1)", x.difference(1), RankedObjects.BAD);
-            due("empty choice: mirrored()", x.mirrored(), 0);
-        }
     }
 
     private static void onlyObject() {

@@ -6,9 +6,14 @@ import java.util.Map;
 
 /**
  * Every list of objects there is, found here by trying all tuples in lexicographic order against the
- * definition, and every object of each list asked everything.
+ * definition: every object of each list asked everything, and long runs of mixed calls over all lists.
  */
 public final class WholeListsTest {
+    private static final int RUNS = 3000;
+
+    /** The most calls that the document promises an object. */
+    private static final int CALLS = 512;
+
     private static int wrong = 0;
 
     private final int sort;
@@ -34,13 +39,19 @@ public final class WholeListsTest {
     }
 
     public static void main(String[] args) {
+        Map<String, WholeListsTest> all = new HashMap<>();
         for (int n = 1; n <= 7; n++) {
             for (int sort = 0; sort <= 4; sort++) {
                 boolean sized = sort == 0 || sort == 4;
                 for (int k = 0; k <= (sized ? n : 0); k++) {
-                    new WholeListsTest(sort, n, k).check();
+                    WholeListsTest lists = new WholeListsTest(sort, n, k);
+                    lists.check();
+                    all.put(sort + " " + n + " " + k, lists);
                 }
             }
+        }
+        for (int seed = 0; seed < RUNS; seed++) {
+            new MixedRun(all, seed).go();
         }
         System.out.println(wrong == 0 ? "all answers are as due" : wrong + " answers are not as due");
         if (wrong != 0) {
@@ -231,5 +242,141 @@ public final class WholeListsTest {
             }
         }
         return places;
+    }
+
+    /** One object through all its calls, among them refused ones, beside a number in a list kept here. */
+    private static final class MixedRun {
+        private final Map<String, WholeListsTest> all;
+        private final RankedObjects x = new RankedObjects();
+        private WholeListsTest lists;
+        private int current = 0;
+        private long mixed;
+
+        MixedRun(Map<String, WholeListsTest> all, int seed) {
+            this.all = all;
+            this.mixed = seed;
+            this.lists = all.get("1 3 0");
+        }
+
+        void go() {
+            for (int call = 0; call < CALLS; call++) {
+                int which = below(12);
+                if (which == 0) {
+                    choose();
+                } else if (which <= 4) {
+                    step(which);
+                } else {
+                    ask(which);
+                }
+            }
+        }
+
+        /** Reckoned from the run's number alone (Knuth's constants), so that a fault comes up each time. */
+        private int nextInt() {
+            mixed = mixed * 6364136223846793005L + 1442695040888963407L;
+            return (int) (mixed >>> 32);
+        }
+
+        private int below(int bound) {
+            return Math.floorMod(nextInt() >> 4, bound);
+        }
+
+        private int size() {
+            return lists.objects.size();
+        }
+
+        /** Mostly from 0 to a bound, at times just outside or far outside. */
+        private int near(int bound) {
+            switch (below(8)) {
+                case 0:
+                    return -1 - below(2);
+                case 1:
+                    return bound + below(2);
+                case 2:
+                    return bound - 1;
+                case 3:
+                    return nextInt();
+                default:
+                    return bound <= 0 ? 0 : below(bound);
+            }
+        }
+
+        private void due(String call, int got, int want) {
+            lists.due(current, call, got, want);
+        }
+
+        private void choose() {
+            int sort = near(5);
+            int n = near(8);
+            int k = near(n >= 1 && n <= 7 ? n + 1 : 8);
+            boolean sized = sort == 0 || sort == 4;
+            WholeListsTest chosen = all.get(sort + " " + n + " " + (sized ? k : 0));
+            String call = "choose(" + sort + ", " + n + ", " + k + ")";
+            due(call, x.choose(sort, n, k) ? 1 : 0, chosen == null ? 0 : 1);
+            if (chosen != null) {
+                lists = chosen;
+                current = 0;
+            }
+        }
+
+        private void step(int which) {
+            int to = which == 1 ? current + 1 : which == 2 ? current - 1 : near(size());
+            boolean there = to >= 0 && to < size();
+            if (which == 1) {
+                due("next()", x.next(), there ? to : RankedObjects.NONE);
+            } else if (which == 2) {
+                due("previous()", x.previous(), there ? to : RankedObjects.NONE);
+            } else {
+                due("go(" + to + ")", x.go(to), there ? to : RankedObjects.BAD);
+            }
+            current = there ? to : current;
+        }
+
+        private void ask(int which) {
+            int i = near(lists.length());
+            int other = near(size());
+            switch (which) {
+                case 5:
+                    due("count()", x.count(), size());
+                    break;
+                case 6:
+                    due("number()", x.number(), size() == 0 ? RankedObjects.NONE : current);
+                    break;
+                case 7:
+                    due("difference(" + other + ")", x.difference(other), dueDifference(other));
+                    break;
+                case 8:
+                    due("mirrored()", x.mirrored(), dueMirrored());
+                    break;
+                default:
+                    askItem(which, i);
+            }
+        }
+
+        private int dueDifference(int other) {
+            boolean there = other >= 0 && other < size();
+            return there ? lists.differing(current, other) : RankedObjects.BAD;
+        }
+
+        private int dueMirrored() {
+            return size() == 0 ? RankedObjects.NONE : lists.mirroredNumber(lists.objects.get(current));
+        }
+
+        private void askItem(int which, int i) {
+            boolean there = size() > 0 && i >= 0 && i < lists.length();
+            int[] object = there ? lists.objects.get(current) : new int[0];
+            if (which == 9) {
+                due("item(" + i + ")", x.item(i), there ? object[i] : RankedObjects.BAD);
+                return;
+            }
+            String beginning = there ? beginning(object, i + 1) : "";
+            if (which == 10) {
+                int first = there ? lists.firstWith.get(beginning) : RankedObjects.BAD;
+                due("firstLike(" + i + ")", x.firstLike(i), first);
+            } else {
+                int number = there ? lists.countWith.get(beginning) : RankedObjects.BAD;
+                due("like(" + i + ")", x.like(i), number);
+            }
+        }
     }
 }
