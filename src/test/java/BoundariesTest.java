@@ -102,6 +102,7 @@ public final class BoundariesTest {
         check("promise 2: n outside 1..7: refused", BoundariesTest::nOutside);
         check("promise 2: for sorts 0 and 4, k outside 0..n: refused", BoundariesTest::kOutside);
         check("promise 2: several of them outside: refused", BoundariesTest::severalOutside);
+        check("promise 2: refused in every sort and size", BoundariesTest::refusedFromEverywhere);
         check("promise 2: else true", BoundariesTest::elseTrue);
         check("promise 2: for other sorts k plays no part", BoundariesTest::kPlaysNoPart);
     }
@@ -166,7 +167,9 @@ public final class BoundariesTest {
 
     private static void wholeClass() {
         check("what it is: an object is used for at most 512 calls", BoundariesTest::call512);
+        check("what it is: later calls are free, but come back (rule 7)", BoundariesTest::laterCalls);
         check("empty list: every method, and the way out of it", BoundariesTest::emptyAndOut);
+        check("promise 1: a new object leaves the older ones as they are", BoundariesTest::sideBySide);
         check("rule 7: no call throws, for any arguments in any state", BoundariesTest::nothingThrows);
     }
 
@@ -377,19 +380,36 @@ public final class BoundariesTest {
 
     /** A refused call has no state change described for it. */
     private static void refused(int sort, int n, int k) {
-        String call = "choose(" + sort + ", " + n + ", " + k + ")";
         for (Sizes s : List.of(new Sizes(0, 5, 3), new Sizes(1, 4, 0), new Sizes(2, 4, 0),
-                new Sizes(3, 4, 0), new Sizes(4, 4, 3), new Sizes(0, 3, 0))) {
-            for (int number : someNumbers(s)) {
-                RankedObjects x = s.at(number);
-                due(s + ": " + call, x.choose(sort, n, k), false);
-                due(s + ": answers after " + call, answers(x), answers(s.at(number)));
+                new Sizes(3, 4, 0), new Sizes(4, 4, 3), new Sizes(0, 3, 0), new Sizes(4, 3, 0))) {
+            refusedFrom(s, sort, n, k);
+        }
+    }
+
+    private static void refusedFrom(Sizes s, int sort, int n, int k) {
+        String call = "choose(" + sort + ", " + n + ", " + k + ")";
+        if (s.isEmpty()) {
+            RankedObjects x = s.made();
+            due(s + ": " + call, x.choose(sort, n, k), false);
+            due(s + ": answers after " + call, answers(x), answers(s.made()));
+        }
+        for (int number : someNumbers(s)) {
+            RankedObjects x = s.at(number);
+            due(s + ": " + call, x.choose(sort, n, k), false);
+            due(s + ": answers after " + call, answers(x), answers(s.at(number)));
+        }
+    }
+
+    private static void refusedFromEverywhere() {
+        int[][] calls = {
+            {-1, 3, 1}, {5, 3, 1}, {0, 0, 0}, {1, 0, 0}, {2, 8, 0}, {3, 8, 1}, {4, 0, 0}, {4, 8, 8},
+            {0, 7, 8}, {0, 3, -1}, {4, 1, 2}, {4, 7, -1},
+        };
+        for (Sizes s : ALL) {
+            for (int[] c : calls) {
+                refusedFrom(s, c[0], c[1], c[2]);
             }
         }
-        Sizes none = new Sizes(4, 3, 0);
-        RankedObjects x = none.made();
-        due(none + ": " + call, x.choose(sort, n, k), false);
-        due(none + ": answers after " + call, answers(x), answers(none.made()));
     }
 
     private static void sortOutside() {
@@ -810,6 +830,38 @@ public final class BoundariesTest {
             due("call " + call, x.next(), NONE);
         }
         due("call 512", x.previous(), 427);
+    }
+
+    /** What they answer is not looked at. */
+    private static void laterCalls() {
+        for (Sizes s : ALL) {
+            RankedObjects x = s.made();
+            for (int call = 0; call < 2000; call++) {
+                x.next();
+                x.difference(call);
+                x.mirrored();
+                x.firstLike(call % 16);
+                x.like(call % 16);
+                x.item(call % 16);
+            }
+            for (int call = 0; call < 2000; call++) {
+                x.previous();
+                x.go(call);
+                x.choose(call % 6, call % 9, call % 8);
+            }
+        }
+    }
+
+    private static void sideBySide() {
+        for (Sizes s : notEmpty()) {
+            for (Sizes t : List.of(new Sizes(1, 7, 0), new Sizes(3, 7, 0), new Sizes(4, 2, 0))) {
+                RankedObjects x = s.last();
+                RankedObjects y = t.made();
+                y.next();
+                due(s + ": answers beside " + t, answers(x), answers(s.last()));
+                due(t + ": number() beside " + s, y.number(), t.isEmpty() ? NONE : 1);
+            }
+        }
     }
 
     private static void emptyAndOut() {

@@ -28,14 +28,11 @@ public final class LanguageTest extends TreeScanner<Void, Void> {
         Tree.Kind.IMPORT, Tree.Kind.PACKAGE, Tree.Kind.INTERFACE, Tree.Kind.ENUM, Tree.Kind.RECORD,
         Tree.Kind.ANNOTATION, Tree.Kind.ENHANCED_FOR_LOOP, Tree.Kind.PARAMETERIZED_TYPE);
 
-    private static final Set<Tree.Kind> COMPARISONS = EnumSet.of(
-        Tree.Kind.LESS_THAN, Tree.Kind.LESS_THAN_EQUAL, Tree.Kind.GREATER_THAN, Tree.Kind.GREATER_THAN_EQUAL);
-
     private static int wrong = 0;
 
     private final CompilationUnitTree unit;
     private final SourcePositions positions;
-    private final Set<String> arrayFields = new HashSet<>();
+    private final Set<String> arrays = new HashSet<>();
     private final Map<String, Set<String>> calls = new HashMap<>();
     private String method = "";
     private int fields = 0;
@@ -64,7 +61,7 @@ public final class LanguageTest extends TreeScanner<Void, Void> {
     }
 
     private void check() {
-        noteArrayFields();
+        noteArrays();
         scan(unit, null);
         rule(1, classes == 1, "one class, not " + classes);
         rule(10, fields <= 40, "at most forty fields");
@@ -82,12 +79,17 @@ public final class LanguageTest extends TreeScanner<Void, Void> {
         }
     }
 
-    private void noteArrayFields() {
-        for (Tree member : ((ClassTree) unit.getTypeDecls().get(0)).getMembers()) {
-            if (member instanceof VariableTree field && field.getType().getKind() == Tree.Kind.ARRAY_TYPE) {
-                arrayFields.add(field.getName().toString());
+    /** By name, of fields, parameters and local variables alike. */
+    private void noteArrays() {
+        new TreeScanner<Void, Void>() {
+            @Override
+            public Void visitVariable(VariableTree tree, Void none) {
+                if (tree.getType() instanceof ArrayTypeTree) {
+                    arrays.add(tree.getName().toString());
+                }
+                return super.visitVariable(tree, none);
             }
-        }
+        }.scan(unit, null);
     }
 
     /** How many methods stand on one another at most; a method that comes round to itself is a fault. */
@@ -122,9 +124,9 @@ public final class LanguageTest extends TreeScanner<Void, Void> {
         return kind != TypeKind.FLOAT && kind != TypeKind.DOUBLE && kind != TypeKind.VOID;
     }
 
-    private boolean isArrayField(ExpressionTree tree) {
+    private boolean isArray(ExpressionTree tree) {
         String text = tree.toString();
-        return arrayFields.contains(text.startsWith("this.") ? text.substring(5) : text);
+        return arrays.contains(text.startsWith("this.") ? text.substring(5) : text);
     }
 
     @Override
@@ -216,31 +218,59 @@ public final class LanguageTest extends TreeScanner<Void, Void> {
 
     @Override
     public Void visitAssignment(AssignmentTree tree, Void none) {
-        rule(4, !isArrayField(tree.getVariable()), where(tree));
+        rule(4, !isArray(tree.getVariable()), where(tree));
         return super.visitAssignment(tree, none);
     }
 
     @Override
     public Void visitBinary(BinaryTree tree, Void none) {
-        boolean arrays = isArrayField(tree.getLeftOperand()) || isArrayField(tree.getRightOperand());
-        rule(4, !arrays, where(tree));
+        rule(4, !isArray(tree.getLeftOperand()) && !isArray(tree.getRightOperand()), where(tree));
+        if (tree.getKind() == Tree.Kind.DIVIDE || tree.getKind() == Tree.Kind.REMAINDER) {
+            checkDivisor(tree.getRightOperand());
+        }
         return super.visitBinary(tree, none);
     }
 
     @Override
+    public Void visitCompoundAssignment(CompoundAssignmentTree tree, Void none) {
+        if (tree.getKind() == Tree.Kind.DIVIDE_ASSIGNMENT || tree.getKind() == Tree.Kind.REMAINDER_ASSIGNMENT) {
+            checkDivisor(tree.getExpression());
+        }
+        return super.visitCompoundAssignment(tree, none);
+    }
+
+    private void checkDivisor(ExpressionTree divisor) {
+        rule(7, divisor.toString().matches("[1-9][0-9]*"), "a divisor that may be 0, " + where(divisor));
+    }
+
+    @Override
+    public Void visitTypeCast(TypeCastTree tree, Void none) {
+        rule(6, tree.getType() instanceof PrimitiveTypeTree && isNumberType(tree.getType()), where(tree));
+        return super.visitTypeCast(tree, none);
+    }
+
+    @Override
     public Void visitForLoop(ForLoopTree tree, Void none) {
-        boolean bounded = tree.getCondition() != null && COMPARISONS.contains(tree.getCondition().getKind());
-        rule(8, bounded && tree.getUpdate().size() == 1, where(tree));
+        boolean counted = tree.getUpdate().size() == 1 && tree.getCondition() != null;
+        rule(8, counted, where(tree));
+        if (counted) {
+            String step = tree.getUpdate().get(0).toString();
+            String counter = counter(tree.getCondition().toString());
+            rule(8, step.equals(counter + "++;"), where(tree));
+            rule(8, stepsOf(counter, tree.getStatement()) == 0, where(tree));
+        }
         return super.visitForLoop(tree, none);
     }
 
-    /** A counter against a bound comes first in the condition, and the loop's own lines move the counter. */
     @Override
     public Void visitWhileLoop(WhileLoopTree tree, Void none) {
         String condition = tree.getCondition().toString();
-        String counter = condition.replaceAll("^\\((\\w+) <=? .*$", "$1");
-        rule(8, !counter.equals(condition), where(tree));
-        rule(8, tree.getStatement().toString().contains(counter + "++"), where(tree));
+        String counter = counter(condition.substring(1, condition.length() - 1));
+        boolean counts = false;
+        if (tree.getStatement() instanceof BlockTree body) {
+            counts = body.getStatements().stream().anyMatch(s -> s.toString().equals(counter + "++;"));
+        }
+        rule(8, counts && stepsOf(counter, tree.getStatement()) == 1, where(tree));
         return super.visitWhileLoop(tree, none);
     }
 
@@ -248,5 +278,49 @@ public final class LanguageTest extends TreeScanner<Void, Void> {
     public Void visitDoWhileLoop(DoWhileLoopTree tree, Void none) {
         rule(8, false, "a do loop, which this test cannot judge, " + where(tree));
         return super.visitDoWhileLoop(tree, none);
+    }
+
+    @Override
+    public Void visitContinue(ContinueTree tree, Void none) {
+        rule(8, false, "a continue, past which this test cannot see a counter, " + where(tree));
+        return super.visitContinue(tree, none);
+    }
+
+    /** What stands first in a loop's condition, below a bound; without || no other part can outlast it. */
+    private static String counter(String condition) {
+        boolean below = condition.matches("\\w+ <=? .*") && !condition.contains("||") && !condition.contains("?");
+        return below ? condition.replaceAll(" .*", "") : "no counter";
+    }
+
+    /** How often a loop's own lines give the counter a new value. */
+    private static int stepsOf(String counter, Tree body) {
+        int[] steps = {0};
+        new TreeScanner<Void, Void>() {
+            private void note(ExpressionTree variable) {
+                steps[0] += variable.toString().equals(counter) ? 1 : 0;
+            }
+
+            @Override
+            public Void visitAssignment(AssignmentTree tree, Void none) {
+                note(tree.getVariable());
+                return super.visitAssignment(tree, none);
+            }
+
+            @Override
+            public Void visitCompoundAssignment(CompoundAssignmentTree tree, Void none) {
+                note(tree.getVariable());
+                return super.visitCompoundAssignment(tree, none);
+            }
+
+            @Override
+            public Void visitUnary(UnaryTree tree, Void none) {
+                String text = tree.toString();
+                if (text.contains("++") || text.contains("--")) {
+                    note(tree.getExpression());
+                }
+                return super.visitUnary(tree, none);
+            }
+        }.scan(body, null);
+        return steps[0];
     }
 }

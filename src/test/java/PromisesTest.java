@@ -22,6 +22,7 @@ public final class PromisesTest {
         shorterAfterLonger();
         longestLists();
         lastOfManyCalls();
+        readme();
         System.out.println(wrong == 0 ? "all answers are as due" : wrong + " answers are not as due");
         if (wrong != 0) {
             System.exit(1);
@@ -279,5 +280,23 @@ public final class PromisesTest {
             due("call " + (step + 1) + ": next()", x.next(), step);
         }
         due("call 512: number()", x.number(), 510);
+    }
+
+    /** The run of calls that README.md shows. */
+    private static void readme() {
+        RankedObjects x = new RankedObjects();
+        dueList("readme: new", x, 0, 1, 2);
+        due("readme: choose", x.choose(RankedObjects.CHOICES, 6, 3), true);
+        due("readme: count()", x.count(), 20);
+        due("readme: go(10)", x.go(10), 10);
+        dueList("readme: go(10)", x, 1, 2, 3);
+        due("readme: next()", x.next(), 11);
+        dueList("readme: next()", x, 1, 2, 4);
+        due("readme: firstLike(0)", x.firstLike(0), 10);
+        due("readme: like(0)", x.like(0), 6);
+        due("readme: difference(10)", x.difference(10), 1);
+        due("readme: mirrored()", x.mirrored(), 13);
+        x.go(13);
+        dueList("readme: the mirror image", x, 1, 3, 4);
     }
 }

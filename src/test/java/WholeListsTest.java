@@ -168,15 +168,51 @@ public final class WholeListsTest {
             checkMirrored(number);
             checkDifferences(number);
         }
+        walkUp();
+        walkDown();
+    }
+
+    /** From end to end, with a new object wherever the old one's calls are used up. */
+    private void walkUp() {
+        int perObject = callsLeft() / (length() + 1);
+        RankedObjects x = at(-1);
+        for (int number = 1; number < objects.size(); number++) {
+            if (number % perObject == 0) {
+                x = at(number - 1);
+            }
+            due(number - 1, "next() on the way up", x.next(), number);
+            dueItems(number, x, number);
+        }
+    }
+
+    private void walkDown() {
+        int perObject = callsLeft() / (length() + 1);
+        RankedObjects x = at(objects.size() - 1);
+        for (int number = objects.size() - 2; number >= 0; number--) {
+            if (number % perObject == 0) {
+                x = at(number + 1);
+            }
+            due(number + 1, "previous() on the way down", x.previous(), number);
+            dueItems(number, x, number);
+        }
+    }
+
+    /** After the two calls of at. */
+    private static int callsLeft() {
+        return CALLS - 2;
     }
 
     private void checkList(int from, RankedObjects x, int number) {
         due(from, "number()", x.number(), number);
+        dueItems(from, x, number);
+        due(from, "item(-1)", x.item(-1), RankedObjects.BAD);
+        due(from, "item(" + length() + ")", x.item(length()), RankedObjects.BAD);
+    }
+
+    private void dueItems(int from, RankedObjects x, int number) {
         for (int i = 0; i < length(); i++) {
             due(from, "item(" + i + ") of " + number, x.item(i), objects.get(number)[i]);
         }
-        due(from, "item(-1)", x.item(-1), RankedObjects.BAD);
-        due(from, "item(" + length() + ")", x.item(length()), RankedObjects.BAD);
     }
 
     private void checkSteps(int number) {
@@ -222,22 +258,34 @@ public final class WholeListsTest {
         return firstWith.get(beginning(image, image.length));
     }
 
+    /** To every object of the list, and to none outside it. */
     private void checkDifferences(int number) {
         RankedObjects x = at(number);
-        int size = objects.size();
-        int stride = size / 40 + 1;
-        for (int other = number % stride; other < size; other += stride) {
-            due(number, "difference(" + other + ")", x.difference(other), differing(number, other));
+        for (int other = -1; other <= objects.size(); other++) {
+            if ((other + 2) % callsLeft() == 0) {
+                x = at(number);
+            }
+            int got = x.difference(other);
+            int want = isListed(other) ? differing(number, other) : RankedObjects.BAD;
+            if (got != want) {
+                due(number, "difference(" + other + ")", got, want);
+            }
         }
-        due(number, "difference(-1)", x.difference(-1), RankedObjects.BAD);
-        due(number, "difference(" + size + ")", x.difference(size), RankedObjects.BAD);
-        checkList(number, x, number);
+        RankedObjects asked = at(number);
+        asked.difference(objects.size() - 1 - number);
+        checkList(number, asked, number);
+    }
+
+    private boolean isListed(int number) {
+        return number >= 0 && number < objects.size();
     }
 
     private int differing(int number, int other) {
+        int[] one = objects.get(number);
+        int[] two = objects.get(other);
         int places = 0;
-        for (int i = 0; i < length(); i++) {
-            if (objects.get(number)[i] != objects.get(other)[i]) {
+        for (int i = 0; i < one.length; i++) {
+            if (one[i] != two[i]) {
                 places++;
             }
         }
@@ -321,7 +369,7 @@ public final class WholeListsTest {
 
         private void step(int which) {
             int to = which == 1 ? current + 1 : which == 2 ? current - 1 : near(size());
-            boolean there = to >= 0 && to < size();
+            boolean there = lists.isListed(to);
             if (which == 1) {
                 due("next()", x.next(), there ? to : RankedObjects.NONE);
             } else if (which == 2) {
@@ -354,8 +402,7 @@ public final class WholeListsTest {
         }
 
         private int dueDifference(int other) {
-            boolean there = other >= 0 && other < size();
-            return there ? lists.differing(current, other) : RankedObjects.BAD;
+            return lists.isListed(other) ? lists.differing(current, other) : RankedObjects.BAD;
         }
 
         private int dueMirrored() {
